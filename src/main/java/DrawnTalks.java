@@ -339,7 +339,7 @@ public final class DrawnTalks {
 
         /** The event number k of a part's line, or ABSENT. */
         int onLine(int p, int k) {
-            if (!isPart(p) || k < 0 || k >= lineSize[p]) {
+            if (p < 0 || p >= PARTS || k < 0 || k >= lineSize[p]) {
                 return ABSENT;
             }
             return lineEvents[p * LONGEST_LINE + k];
@@ -384,7 +384,10 @@ public final class DrawnTalks {
         }
 
         private boolean add(int p, int q, int what) {
-            if (!isPart(p) || size >= EVENTS || lineSize[p] >= LONGEST_LINE) {
+            if (p < 0 || p >= PARTS || q < 0 || q >= PARTS) {
+                return false;
+            }
+            if (size >= EVENTS || lineSize[p] >= LONGEST_LINE) {
                 return false;
             }
             part[size] = p;
@@ -414,7 +417,7 @@ public final class DrawnTalks {
         }
 
         boolean hasSameLine(Talk that, int p) {
-            if (!isPart(p) || lineSize[p] != that.lineSize[p]) {
+            if (p < 0 || p >= PARTS || lineSize[p] != that.lineSize[p]) {
                 return false;
             }
             for (int k = 0; k < lineSize[p]; k++) {
@@ -458,8 +461,7 @@ public final class DrawnTalks {
             t.empty();
             at = 0;
             for (int k = 0; k <= EVENTS; k++) {
-                next();
-                if (kind == END_OF_TEXT) {
+                if (nextIs(END_OF_TEXT)) {
                     return t.isWhole() ? ABSENT : length;
                 }
                 if (!readEvent(t)) {
@@ -498,28 +500,24 @@ public final class DrawnTalks {
             return nextIs(SEMICOLON);
         }
 
+        /** Reads the next token; at the end of the text it stands behind the last byte. */
         private boolean nextIs(int wanted) {
-            next();
-            return kind == wanted;
-        }
-
-        private void next() {
-            while (at < length && byteAt(at) == ' ') {
+            while (at < length && text[at] == ' ') {
                 at++;
             }
             start = at;
             value = 0;
             if (at >= length) {
                 kind = END_OF_TEXT;
-            } else if (isSmallLetter(byteAt(at))) {
+            } else if (isSmallLetter(text[at])) {
                 readWord();
             } else {
-                readSign();
+                readSign(text[at]);
             }
+            return kind == wanted;
         }
 
-        private void readSign() {
-            int b = byteAt(at);
+        private void readSign(int b) {
             at++;
             if (b == ';') {
                 kind = SEMICOLON;
@@ -532,16 +530,16 @@ public final class DrawnTalks {
         }
 
         private void readWord() {
-            while (at < length && isSmallLetter(byteAt(at))) {
+            while (at < length && isSmallLetter(text[at])) {
                 at++;
             }
             if (wordIs("send")) {
                 kind = SEND;
             } else if (wordIs("take")) {
                 kind = TAKE;
-            } else if (at - start == 1 && byteAt(start) < 'a' + NAMES) {
+            } else if (at - start == 1 && text[start] < 'a' + NAMES) {
                 kind = NAME;
-                value = byteAt(start) - 'a';
+                value = text[start] - 'a';
             } else {
                 kind = WRONG;
             }
@@ -551,16 +549,12 @@ public final class DrawnTalks {
             if (at - start != word.length()) {
                 return false;
             }
-            for (int k = 0; k < word.length(); k++) {
-                if (byteAt(start + k) != word.charAt(k)) {
+            for (int k = start; k < at; k++) {
+                if (text[k] != word.charAt(k - start)) {
                     return false;
                 }
             }
             return true;
-        }
-
-        private int byteAt(int place) {
-            return place >= 0 && place < length && place < BYTES ? text[place] : 0;
         }
 
         private static boolean isSmallLetter(int b) {
@@ -650,7 +644,10 @@ public final class DrawnTalks {
      * length and one, so that whatever comes later has a higher number.
      */
     private static final class Lattice {
+        /** Of each cut: in how many orders it is come to; none, if it is no moment. */
         private final long[] rows = new long[CUTS];
+        /** Of each moment: the messages under way, and the least of the greatest up to it. */
+        private final int[] underWay = new int[CUTS];
         private final int[] leastTo = new int[CUTS];
         private final int[] step = new int[PARTS];
         private final int[] passed = new int[PARTS];
@@ -667,12 +664,13 @@ public final class DrawnTalks {
                 if (rows[c] > 0) {
                     visit(t, c, cuts);
                 }
-                rowsInAll = rows[c];
-                least = leastTo[c];
                 goToNextCut(t);
             }
+            rowsInAll = rows[cuts - 1];
+            least = leastTo[cuts - 1];
         }
 
+        /** Everything as at the first moment: how many cuts there are, one at least. */
         private int prepare(Talk t) {
             int cuts = 1;
             for (int p = 0; p < PARTS; p++) {
@@ -692,47 +690,36 @@ public final class DrawnTalks {
                 leastTo[c] = EVENTS;
             }
             rows[0] = 1;
+            underWay[0] = 0;
             leastTo[0] = 0;
             reached = 0;
             most = 0;
             return cuts;
         }
 
-        /** The cut c is a moment: all that comes to it has been here already. */
+        /** The cut c is a moment, and every moment that leads to it was visited before. */
         private void visit(Talk t, int c, int cuts) {
-            int now = underWay(t);
             reached++;
-            most = Math.max(most, now);
-            leastTo[c] = Math.max(leastTo[c], now);
+            most = Math.max(most, underWay[c]);
+            leastTo[c] = Math.max(leastTo[c], underWay[c]);
             for (int p = 0; p < PARTS; p++) {
                 int later = c + step[p];
-                if (later < cuts && canGoOn(t, p)) {
+                int e = t.onLine(p, passed[p]);
+                if (later < cuts && e != ABSENT && mayHappen(t, e)) {
                     rows[later] += rows[c];
+                    underWay[later] = underWay[c] + (t.isTake[e] ? -1 : 1);
                     leastTo[later] = Math.min(leastTo[later], leastTo[c]);
                 }
             }
         }
 
-        private boolean canGoOn(Talk t, int p) {
-            int e = t.onLine(p, passed[p]);
-            if (e == ABSENT) {
-                return false;
+        /** Of an event whose line has come to it: a take has to wait for its send. */
+        private boolean mayHappen(Talk t, int e) {
+            if (!t.isTake[e]) {
+                return true;
             }
-            return !t.isTake[e] || isPassed(t, t.mate[e]);
-        }
-
-        private boolean isPassed(Talk t, int e) {
-            return e >= 0 && e < t.size && place[e] < passed[t.part[e]];
-        }
-
-        private int underWay(Talk t) {
-            int sum = 0;
-            for (int e = 0; e < t.size; e++) {
-                if (isPassed(t, e)) {
-                    sum += t.isTake[e] ? -1 : 1;
-                }
-            }
-            return sum;
+            int send = t.mate[e];
+            return send >= 0 && send < t.size && place[send] < passed[t.part[send]];
         }
 
         private void goToNextCut(Talk t) {
@@ -752,6 +739,8 @@ public final class DrawnTalks {
 
         private final Talk[] talks;
         private final int[] passed = new int[PARTS];
+        /** Of each part its next event, in the talk whose line it keeps to, or ABSENT. */
+        private final int[] next = new int[PARTS];
         /** Of each pair of parts (from, to): the names sent, how many, how many taken. */
         private final int[] names = new int[PARTS * PARTS * LONGEST_LINE];
         private final int[] sent = new int[PARTS * PARTS];
@@ -770,52 +759,57 @@ public final class DrawnTalks {
             mix = wanted;
             done = 0;
             left = 0;
-            restart();
+            for (int c = 0; c < PARTS * PARTS; c++) {
+                sent[c] = 0;
+                taken[c] = 0;
+            }
+            goToStart();
             for (int k = 0; k < LONGEST; k++) {
                 int p = firstThatCan();
                 if (p == ABSENT) {
                     return;
                 }
-                go(p);
+                act(p);
+                doer[k] = p;
+                done++;
+                goOn(p);
             }
         }
 
         boolean ends() {
             for (int p = 0; p < PARTS; p++) {
-                if (passed[p] < lineOf(p).lineSize[p]) {
+                if (next[p] != ABSENT) {
                     return false;
                 }
             }
             return left == 0;
         }
 
-        /** The events as they were played; all of them have room, or some stay away. */
+        /** The events in the order in which they were played. */
         void copyInto(Talk t) {
             t.empty();
-            restart();
-            for (int k = 0; k < done; k++) {
+            goToStart();
+            for (int k = 0; k < done && k < LONGEST; k++) {
                 int p = doer[k];
-                t.addCopy(lineOf(p), nextOf(p));
-                passed[p]++;
+                t.addCopy(talkOf(p), next[p]);
+                goOn(p);
             }
         }
 
-        private void restart() {
-            for (int p = 0; p < PARTS; p++) {
-                passed[p] = 0;
-            }
-            for (int c = 0; c < PARTS * PARTS; c++) {
-                sent[c] = 0;
-                taken[c] = 0;
-            }
-        }
-
-        private Talk lineOf(int p) {
+        private Talk talkOf(int p) {
             return talks[choice(mix, p)];
         }
 
-        private int nextOf(int p) {
-            return lineOf(p).onLine(p, passed[p]);
+        private void goToStart() {
+            for (int p = 0; p < PARTS; p++) {
+                passed[p] = 0;
+                next[p] = talkOf(p).onLine(p, 0);
+            }
+        }
+
+        private void goOn(int p) {
+            passed[p]++;
+            next[p] = talkOf(p).onLine(p, passed[p]);
         }
 
         private int firstThatCan() {
@@ -828,11 +822,11 @@ public final class DrawnTalks {
         }
 
         private boolean can(int p) {
-            int e = nextOf(p);
+            int e = next[p];
             if (e == ABSENT) {
                 return false;
             }
-            Talk t = lineOf(p);
+            Talk t = talkOf(p);
             if (!t.isTake[e]) {
                 return true;
             }
@@ -840,21 +834,18 @@ public final class DrawnTalks {
             return taken[c] < sent[c] && names[c * LONGEST_LINE + taken[c]] == t.name[e];
         }
 
-        private void go(int p) {
-            int e = nextOf(p);
-            if (e == ABSENT || done >= LONGEST) {
+        private void act(int p) {
+            int e = next[p];
+            if (e == ABSENT) {
                 return;
             }
-            Talk t = lineOf(p);
+            Talk t = talkOf(p);
             if (t.isTake[e]) {
                 taken[t.other[e] * PARTS + p]++;
                 left--;
             } else {
                 post(p * PARTS + t.other[e], t.name[e]);
             }
-            doer[done] = p;
-            done++;
-            passed[p]++;
         }
 
         private void post(int c, int what) {
@@ -886,8 +877,11 @@ public final class DrawnTalks {
             choose(wanted);
             int sum = 0;
             for (int mix = 0; mix < MIXES; mix++) {
-                if (isFirst(mix) && isSuch(mix, what)) {
-                    sum++;
+                if (isFirst(mix)) {
+                    player.perform(mix);
+                    if (isSuch(mix, what)) {
+                        sum++;
+                    }
                 }
             }
             return sum;
@@ -895,13 +889,16 @@ public final class DrawnTalks {
 
         int newAt(int wanted, int k) {
             choose(wanted);
-            int passed = 0;
+            int before = 0;
             for (int mix = 0; mix < MIXES; mix++) {
-                if (isFirst(mix) && isNew(mix)) {
-                    if (passed == k) {
-                        return mix;
+                if (isFirst(mix) && !isOfOne(mix)) {
+                    player.perform(mix);
+                    if (player.ends()) {
+                        if (before == k) {
+                            return mix;
+                        }
+                        before++;
                     }
-                    passed++;
                 }
             }
             return BAD;
@@ -940,20 +937,22 @@ public final class DrawnTalks {
             return true;
         }
 
+        /** What is asked of a mix that was played just now. */
         private boolean isSuch(int mix, int what) {
-            if (what == ENDING) {
-                return endsSo(mix);
+            if (what == STOPPED) {
+                return !player.ends();
             }
-            return what == STOPPED ? !endsSo(mix) : isNew(mix);
+            return player.ends() && (what == ENDING || !isOfOne(mix));
         }
 
-        private boolean isNew(int mix) {
+        /** Whether its lines are those of one of the talks. */
+        private boolean isOfOne(int mix) {
             for (int i = 0; i < TALKS; i++) {
                 if (has(i) && isOf(mix, i)) {
-                    return false;
+                    return true;
                 }
             }
-            return endsSo(mix);
+            return false;
         }
 
         private boolean isOf(int mix, int i) {
@@ -963,11 +962,6 @@ public final class DrawnTalks {
                 }
             }
             return true;
-        }
-
-        private boolean endsSo(int mix) {
-            player.perform(mix);
-            return player.ends();
         }
     }
 }
