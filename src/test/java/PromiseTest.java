@@ -1,16 +1,5 @@
-import java.util.ArrayList;
-import java.util.List;
-
 /** For each promise of the document: ordinary inputs, its edges, wrong inputs. */
-public final class PromiseTest {
-    private static final int BAD = -1;
-    private static final int STATE = -2;
-    private static final int FULL = -3;
-    private static final int LOW = Integer.MIN_VALUE;
-    private static final int HIGH = Integer.MAX_VALUE;
-
-    private static int wrong = 0;
-
+public final class PromiseTest extends Checks {
     public static void main(String[] args) {
         newObject();
         type();
@@ -38,62 +27,7 @@ public final class PromiseTest {
         takeFull();
         count();
         refusalsChangeNothing();
-        System.out.println(wrong == 0 ? "the promises hold" : wrong + " answers are not as due");
-        if (wrong != 0) {
-            System.exit(1);
-        }
-    }
-
-    private static void due(String call, long got, long want) {
-        if (got != want) {
-            wrong++;
-            System.out.println(call + " answered " + got + ", due is " + want);
-        }
-    }
-
-    private static void write(DrawnTalks x, String text) {
-        for (int k = 0; k < text.length(); k += 8) {
-            String piece = text.substring(k, Math.min(text.length(), k + 8));
-            long v = 0;
-            for (int c = 0; c < piece.length(); c++) {
-                v = v << 8 | piece.charAt(c);
-            }
-            x.type(v, piece.length());
-        }
-    }
-
-    private static int tell(DrawnTalks x, int i, String text) {
-        x.clear();
-        write(x, text);
-        return x.talk(i);
-    }
-
-    /** s is send, t is take: "sABa tABa" stands for "send A B a; take A B a;". */
-    private static String whole(String brief) {
-        StringBuilder b = new StringBuilder();
-        for (String w : brief.split(" ")) {
-            b.append(w.charAt(0) == 's' ? "send " : "take ");
-            b.append(w.charAt(1)).append(' ').append(w.charAt(2)).append(' ').append(w.charAt(3)).append("; ");
-        }
-        return b.toString();
-    }
-
-    private static DrawnTalks with(String... talks) {
-        DrawnTalks x = new DrawnTalks();
-        for (int i = 0; i < talks.length; i++) {
-            String text = talks[i].isEmpty() ? "" : whole(talks[i]);
-            int events = talks[i].isEmpty() ? 0 : talks[i].split(" ").length;
-            due("talk " + talks[i], tell(x, i, text), events);
-        }
-        return x;
-    }
-
-    private static String ten(String pair) {
-        List<String> row = new ArrayList<>();
-        for (int k = 0; k < 10; k++) {
-            row.add(pair);
-        }
-        return String.join(" ", row);
+        finish("the promises hold");
     }
 
     // Promise 1
