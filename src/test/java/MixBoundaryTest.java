@@ -19,6 +19,7 @@ public final class MixBoundaryTest extends Checks {
         aTakeWaitsForItsName();
         leftOver();
         linesThatDoNotEnd();
+        onePartAlone();
         theLongestPlay();
         playOfEmptyTalks();
         setNumbers();
@@ -233,6 +234,31 @@ public final class MixBoundaryTest extends Checks {
         due("both wait: ends", x.play(3 * 64, 1), 0);
         due("neither waits: done", x.play(3 * 16, 0), 3);
         due("neither waits: left", x.play(3 * 16, 2), 1);
+    }
+
+    /** Of each pair of parts: one keeps to its line, all others have an empty one. */
+    private static void onePartAlone() {
+        int[] weight = {64, 16, 4, 1};
+        for (int p = 0; p < 4; p++) {
+            for (int q = 0; q < 4; q++) {
+                if (p == q) {
+                    continue;
+                }
+                String pair = "" + (char) ('A' + p) + (char) ('A' + q);
+                DrawnTalks x = with("", "s" + pair + "a t" + pair + "a");
+                due(pair + ", the send alone: done", x.play(weight[p], 0), 1);
+                due(pair + ", the send alone: ends", x.play(weight[p], 1), 0);
+                due(pair + ", the send alone: left", x.play(weight[p], 2), 1);
+                due(pair + ", the take alone: done", x.play(weight[q], 0), 0);
+                due(pair + ", the take alone: ends", x.play(weight[q], 1), 0);
+                due(pair + ", the take alone: left", x.play(weight[q], 2), 0);
+                due(pair + ", the send alone is stuck", x.take(weight[p], 2), STATE);
+                due(pair + ", the take alone is stuck", x.take(weight[q], 2), STATE);
+                due(pair + ", both end", x.play(weight[p] + weight[q], 1), 1);
+                due(pair + ", mixes that end", x.mixes(3, 0), 2);
+                due(pair + ", mixes that are stuck", x.mixes(3, 1), 2);
+            }
+        }
     }
 
     private static void theLongestPlay() {
